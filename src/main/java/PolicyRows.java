@@ -1231,7 +1231,7 @@ public final class PolicyRows {
             int where = act[place - 1];
             switch (act[place - 2]) {
                 case INSERTED:
-                    rows--;
+                    rows = Math.max(rows - 1, 0);
                     break;
                 case UPDATED:
                     setNumber(where, act[place], act[place + 1]);
@@ -1905,7 +1905,10 @@ public final class PolicyRows {
             return best;
         }
 
-        /** Tries other numbers in CELLS; the user counts for ESCAPES alone. */
+        /**
+         * Tries other numbers in CELLS; the user counts for ESCAPES alone. What is SEEN and astray in
+         * another ROW no number of this one mends, so such a ROW is not tried.
+         */
         void search(int aim, int user) {
             found = 0;
             first = NONE;
