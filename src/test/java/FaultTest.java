@@ -77,6 +77,8 @@ public final class FaultTest {
         at("view caller;", 1, ";");
         at("view caller using 1;", 1, "using");
         at("roles;", 1, "roles");
+        at("sole;", 1, "sole");
+        at("zzz;", 1, "zzz");
         at("Role;", 1, "R");
         at("role\t;", 1, "\t");
         at("role\u00e9;", 1, "\u00e9");
@@ -122,6 +124,7 @@ public final class FaultTest {
         at("permit all read;restrict all any;".repeat(4) + "restrict", 2, "restrict");
         at("permit all read;restrict all any;".repeat(4) + "permit all read;", 2, "permit");
         good("view caller where 1;".repeat(3));
+        good("permit all any using 1 check 2;".repeat(8) + "view caller where 1;".repeat(3));
         at("view caller where 1;".repeat(4), 2, "view");
         at("permit all read;".repeat(8) + "policy", 1, "policy");
     }
@@ -134,6 +137,9 @@ public final class FaultTest {
         at("role;permit 1 read;", 3, "1");
         at("role;permit 6 read;", 3, "6");
         at("role;view owner 7 where 1;", 3, "7");
+        at("role;role;view owner 2 where 1;", 3, "2");
+        at("role;role;permit 2 read;", 3, "2");
+        at("role;role;role 2;", 3, "2");
         at("view caller of 0 where 1;", 3, "0");
         at("view caller where 1;view caller of 2 where 1;", 3, "2");
         at("permit all read using has 0;role;", 3, "0");

@@ -68,6 +68,35 @@ public final class PromiseTest {
         due.is("its place", x.fault(), 0);
     }
 
+    /** A text is all anew: nothing of the one ahead, nor of the one before that, shines through. */
+    private static void anew() {
+        PolicyRows x = due.told("columns 3;role;role 0;role 0 1;row 1 2 3;row 4 5 6;row 7 8 9;restrict all any using 0 check 0;"
+            + "restrict all any;view owner 1 barrier where 0;view caller barrier of 0 where a<b;");
+        x.turn(0, false);
+        x.grant(1, 0, false);
+        x.see(0, 2, true);
+        due.is("tell a second", Due.tell(x, TABLE), 0);
+        x.turn(0, false);
+        x.see(0, 2, true);
+        x.delete(0, 0);
+        due.is("tell a third", Due.tell(x, "role;role;role;row 9;"), 1);
+        due.is("tell a third", Due.tell(x, "role;role;role;row 8 9;permit 0 read;permit all insert;view caller where me;view caller where b;"), 0);
+        counts(x, 3, 2, 1, 2, 2, 1, 2, 0, 0, 0, 1, 0, 0);
+        for (int role = 0; role < 3; role++) {
+            due.is("given", x.role(role, 0), 0);
+            due.is("reads", x.role(role, 2), role == 0 ? 1 : 0);
+            due.is("of it", x.role(role, 3), role == 0 ? 1 : 0);
+        }
+        for (int i = 0; i < 2; i++) {
+            due.is("restricts", x.policy(i, 0), 0);
+            due.is("using, check", x.policy(i, 4) + x.policy(i, 5), -2);
+            due.is("barrier, of, owner", x.view(i, 0) + x.view(i, 1) + x.view(i, 2), -2);
+            due.is("where", x.view(i, 3), 1);
+        }
+        due.is("tell a fourth", Due.tell(x, ""), 0);
+        counts(x, 0, 2, 0, 0, 0, 0, 0, 0, 0, 0, 1, 0, 0);
+    }
+
     private static void counted() {
         PolicyRows x = due.told(TABLE);
         counts(x, 4, 2, 4, 5, 0, 10, 16, 0, 0, 0, 0, 0, 0);
@@ -110,6 +139,10 @@ public final class PromiseTest {
         due.is("weight of a restriction without its permit", x.policy(2, 6), 0);
         due.is("needless: what is off isn't", x.count(6), 4 + 16);
         due.is("sights", x.count(5), 4);
+        PolicyRows y = due.told("role;role;row 1 1;row 2 2;permit 0 read using a=2;permit all read using me=0;permit 1 read using me=1;");
+        due.is("needless by another", y.count(6), 1);
+        due.is("weight", y.policy(1, 6), 1);
+        due.is("weight of the last", y.policy(2, 6), 2);
         PolicyRows commands = due.told("permit all read;permit all insert;permit all update;permit all delete;restrict all any;");
         for (int policy = 0; policy < 5; policy++) {
             due.is("policy(" + policy + ", 2)", commands.policy(policy, 2), policy);
@@ -235,7 +268,9 @@ public final class PromiseTest {
         due.is("too great", x.insert(3, 100, 1, 0, 0), -1);
         due.is("too little", x.insert(3, 1, -100, 0, 0), -1);
         due.is("cells", x.cell(4, 0) * 1000 + x.cell(5, 1), 49901);
+        due.is("the greatest", due.told("columns 1;role;permit all any;").insert(0, 99, 100, 0, 0), 1);
         due.is("refused", x.count(11), 4);
+        due.is("undo keeps a row of none", due.told("role;").undo(), -1);
         for (int rows = 7; rows <= 16; rows++) {
             due.is("insert", x.insert(2, 1, 1, 1, 1), rows);
         }
@@ -410,6 +445,10 @@ public final class PromiseTest {
         due.is("one more", y.toSee(3, 0), 4);
         due.is("fewest, not least", y.toSee(4, 0), 4 + 8);
         due.is("all as ever", y.role(0, 1), 1);
+        PolicyRows all = due.told("role;role;role;row 1 1;permit 0 read using has 1 and has 2 and me=0;permit 1 read using me=2 and has 0;");
+        due.is("both others", all.toSee(0, 0), 6);
+        due.is("two by oneself", all.toSee(2, 0), 3);
+        due.is("oneself by number", all.toSee(1, 0), -1);
     }
 
     private static void escaping() {
@@ -501,6 +540,12 @@ public final class PromiseTest {
         meantOf(x, 2, 2043, 0, 0, 2);
         due.is("see", x.see(1, 0, false), 3);
         meantOf(x, 0, -1, 0, -1, 0);
+        PolicyRows y = due.told("columns 1;role;role;role;row 5;row 6;permit 0 read;permit 1 read using a=5;permit 2 read using a=6 or a=5;");
+        meantOf(y, 36, 41, 1, 1, 3);
+        y.see(1, 0, false);
+        meantOf(y, 18, 41, 0, 2, 2);
+        y.see(2, 0, true);
+        meantOf(y, 1, 56, 0, 0, 1);
         x.forget();
         due.is("see", x.see(0, 1, true), 1);
         due.is("see", x.see(0, 2, false), 2);
@@ -548,6 +593,13 @@ public final class PromiseTest {
         due.is("years(-7, 19, 2)", y.years(-7, 19, 2), 3);
         due.is("years(-7, 0, 2)", y.years(-7, 0, 2), 3);
         due.is("as ever", y.cell(0, 0), 5);
+        PolicyRows some = due.told("role;role;row 1 2;permit all insert;permit all read using a+me*2<b;permit all update;permit all delete;");
+        int[][] wants = {{1, 20, 15, 8}, {2, 19, 6, 0}, {77, 21, 16, 9}, {-5, 24, 13, 6}, {2147483647, 25, 16, 4}};
+        for (int[] want : wants) {
+            for (int what = 0; what < 3; what++) {
+                due.is("years(" + want[0] + ", 60, " + what + ")", some.years(want[0], 60, what), want[1 + what]);
+            }
+        }
         PolicyRows full = due.told("columns 4;role;" + "row 1 2 3 4;".repeat(16) + "permit all any;");
         due.is("years(12345, 60, 0)", full.years(12345, 60, 0), 58);
         due.is("years(12345, 60, 1)", full.years(12345, 60, 1), 10);
@@ -598,6 +650,7 @@ public final class PromiseTest {
     public static void main(String[] args) {
         newObject();
         tape();
+        anew();
         counted();
         policies();
         views();
