@@ -457,10 +457,9 @@ public final class PolicyRows {
         static final int END = 0;
         static final int WORD = 1;
         static final int NUMBER = 2;
+        /** Also a byte that is no TOKEN: it is no sign that anyone asks for. */
         static final int SIGN = 3;
-        static final int OTHER = 4;
         static final int DIGIT_LIMIT = 4;
-        static final String SIGNS = ";,()+-*/<=";
 
         final byte[] bytes = new byte[TAPE_LIMIT];
         int size;
@@ -502,20 +501,20 @@ public final class PolicyRows {
                 kind = END;
                 return;
             }
-            int sign = bytes[start] & 255;
-            if (sign >= 'a' && sign <= 'z') {
+            byte lead = bytes[start];
+            if (lead >= 'a' && lead <= 'z') {
                 kind = WORD;
                 while (stop < limit && bytes[stop] >= 'a' && bytes[stop] <= 'z') {
                     stop++;
                 }
-            } else if (sign >= '0' && sign <= '9') {
+            } else if (lead >= '0' && lead <= '9') {
                 kind = NUMBER;
                 while (stop < limit && bytes[stop] >= '0' && bytes[stop] <= '9') {
                     stop++;
                 }
                 workOutNumber();
             } else {
-                kind = SIGNS.indexOf((char) sign) >= 0 ? SIGN : OTHER;
+                kind = SIGN;
                 stop++;
             }
         }
@@ -1130,15 +1129,13 @@ public final class PolicyRows {
         final int[] seenUser = new int[SEEN_LIMIT];
         final int[] seenRow = new int[SEEN_LIMIT];
 
+        /** CELLS stay: each ROW that comes has all that its COLUMNS show. */
         void clear() {
             rows = 0;
             on = 0;
             acts = 0;
             for (int role = 0; role < ROLE_LIMIT; role++) {
                 given[role] = 0;
-            }
-            for (int i = 0; i < ROW_LIMIT * COLUMN_LIMIT; i++) {
-                cells[i] = 0;
             }
             forgetSeen();
         }

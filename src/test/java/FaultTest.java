@@ -79,6 +79,15 @@ public final class FaultTest {
         at("roles;", 1, "roles");
         at("sole;", 1, "sole");
         at("zzz;", 1, "zzz");
+        at("rolez;", 1, "rolez");
+        at("row 1 2z;", 1, "z");
+        for (int sign = 0; sign < 256; sign++) {
+            boolean isDigit = sign >= '0' && sign <= '9';
+            if (sign != ' ' && sign != '\n' && sign != ';' && !isDigit) {
+                text("role" + " " + (char) sign, 1, 5);
+                rule("1" + (char) sign + ")", 1, "+-*/<=".indexOf(sign) >= 0 ? 2 : 1);
+            }
+        }
         at("Role;", 1, "R");
         at("role\t;", 1, "\t");
         at("role\u00e9;", 1, "\u00e9");

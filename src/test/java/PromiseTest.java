@@ -397,11 +397,16 @@ public final class PromiseTest {
             x.update(0, 0, 0, i);
             due.is("acts kept", x.count(7), Math.min(i, 40));
         }
-        for (int i = 39; i >= 0; i--) {
-            due.is("undo", x.undo(), i);
+        x.image();
+        for (int time = 0; time < 2; time++) {
+            for (int i = 39; i >= 0; i--) {
+                due.is("undo", x.undo(), i);
+                due.is("as it was, the oldest ones done", x.cell(0, 0), i + 5);
+            }
+            due.is("undo", x.undo(), -1);
+            x.update(0, 0, 0, 77);
+            due.is("restore", x.restore(), true);
         }
-        due.is("undo", x.undo(), -1);
-        due.is("the oldest ones stay done", x.cell(0, 0), 5);
         PolicyRows y = due.told("columns 1;role;role;row 1;row 2;row 3;permit all any;");
         y.delete(0, 1);
         y.insert(0, 7, 0, 0, 0);
