@@ -21,6 +21,14 @@ final class Due {
         is(call, got ? 1 : 0, want ? 1 : 0);
     }
 
+    void is(String call, String got, String want) {
+        asked++;
+        if (!got.equals(want)) {
+            wrong++;
+            System.out.println(call + " answered " + got + ", due is " + want);
+        }
+    }
+
     /** It must throw that very class. */
     void fails(String call, Class<? extends RuntimeException> want, Call tried) {
         asked++;
@@ -70,6 +78,35 @@ final class Due {
         PolicyRows x = new PolicyRows();
         is("tell of " + text, tell(x, text), 0);
         return x;
+    }
+
+    /** Of a new object: what tell() and fault() answer, that it counts once, and that the tape is empty then. */
+    void text(String text, int kind, int place) {
+        PolicyRows x = new PolicyRows();
+        is("tell of " + text, tell(x, text), kind);
+        is("fault() of " + text, x.fault(), place);
+        is("count(10) of " + text, x.count(10), kind == 0 ? 0 : 1);
+        is("count(9) of " + text, x.count(9), 0);
+    }
+
+    /** The FAULT's place is that of the last such token. */
+    void at(String text, int kind, String token) {
+        text(text, kind, text.lastIndexOf(token));
+    }
+
+    void good(String text) {
+        text(text, 0, -1);
+    }
+
+    /** A call of which only what it is asked for varies. */
+    interface Told {
+        int answer(int what);
+    }
+
+    void row(String call, Told told, int... want) {
+        for (int what = 0; what < want.length; what++) {
+            is(call + " by " + what, told.answer(what), want[what]);
+        }
     }
 
     void end(String name) {

@@ -3,11 +3,7 @@ public final class FaultTest {
     private static final Due due = new Due();
 
     private static void text(String text, int kind, int place) {
-        PolicyRows x = new PolicyRows();
-        due.is("tell of " + text, Due.tell(x, text), kind);
-        due.is("fault() of " + text, x.fault(), place);
-        due.is("count(10) of " + text, x.count(10), kind == 0 ? 0 : 1);
-        due.is("count(9) of " + text, x.count(9), 0);
+        due.text(text, kind, place);
     }
 
     private static void good(String text) {
@@ -15,7 +11,7 @@ public final class FaultTest {
     }
 
     private static void at(String text, int kind, String token) {
-        text(text, kind, text.lastIndexOf(token));
+        due.at(text, kind, token);
     }
 
     private static void cut(String text) {
