@@ -65,6 +65,11 @@ public final class InsightEdgeTest {
         due.is("what is off is none; the other matters", x.count(6), 4);
         x.turn(1, false);
         due.is("none reads", x.count(6), 4);
+        due.is("a number that no role has", due.told("role;row 1 2;permit all read using me=1;").count(6), 1);
+        due.is("numbers that no row has", due.told("role;row 1 2;permit all read using a=0 and b=0;").count(6), 1);
+        PolicyRows gone = due.told("columns 1;role;row 1;row 5;permit all any using a=1 or a=5;permit all any using a=5;permit all read using a=5;");
+        due.is("delete", gone.delete(0, 1), 1);
+        due.is("numbers of a row that is there no more", gone.count(6), 6);
         due.is("the last matters alone", due.told("role;row 1 2;" + "restrict all read;".repeat(7) + "permit all read;").count(6), 127);
     }
 
@@ -78,6 +83,17 @@ public final class InsightEdgeTest {
         x.grant(5, 4, true);
         due.row("role 5", what -> x.role(5, what), 17, 49, 65535, 1 + 4 + 8 + 16 + 32 + 128);
         due.row("a role that reads none", what -> x.role(1, what), 0, 2, 0, 12);
+    }
+
+    /** As above, asked once, of a ROLE that was not asked for yet. */
+    private static void bitsOfARoleAskedOnce() {
+        int[][] want = {{0, 1, 0, 0}, {1, 3, 1, 1}, {0, 4, 0, 2}};
+        for (int role = 0; role < 3; role++) {
+            for (int what = 0; what < 4; what++) {
+                PolicyRows x = due.told("role;role 0;role;row 1 2;permit 1 read;restrict 2 read;");
+                due.is("role(" + role + ", " + what + ")", x.role(role, what), want[role][what]);
+            }
+        }
     }
 
     /** "NONE: ALL", "4: ANY", "(NONE: without)" */
@@ -277,6 +293,14 @@ public final class InsightEdgeTest {
         meant(full, 16 * 4 * 19, 41, 1);
         full.see(5, 0, false);
         meant(full, 0, -1, 0);
+        PolicyRows eight = due.told("columns 1;role;row 5;row 6;permit all read using a<6;");
+        for (int i = 0; i < 7; i++) {
+            eight.see(0, 0, true);
+        }
+        meant(eight, 14 + 18, 41, 1);
+        due.is("the eighth", eight.see(0, 1, true), 8);
+        meant(eight, 15, 1041, 0);
+        look(eight, 0, 1);
         PolicyRows last = due.told(FULL + "permit all read using d=9;");
         last.see(5, 15, true);
         meant(last, 1, 15359, 0);
@@ -501,6 +525,7 @@ public final class InsightEdgeTest {
         weightsAreNoneToNinetySix();
         needlessAreNoneToEight();
         bitsOfARole();
+        bitsOfARoleAskedOnce();
         detailsOfAPolicy();
         detailsOfAView();
         fewestRolesToSee();

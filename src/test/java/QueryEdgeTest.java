@@ -85,7 +85,7 @@ public final class QueryEdgeTest {
     /** "by 0 it gives 0, and all FAILS" */
     private static void byZeroAllFails() {
         String[] failing = {"1/0", "0/0", "1 or 1/0", "1/0 or 1", "0 and 1/0", "1/0 and 0", "not 1/0", "1/0<1", "1=1/0", "has 1/0",
-            "0*(1/0)", "1/(a-7)", "1/(a<b)", "1/has 2", "1/(me-1)", "5+1/0*3", "1/(1/2)", MIN + "/0", "(((((1/0)))))=0"};
+            "0*(1/0)", "1/(a-7)", "1/(a<b)", "1/has 2", "1/(me-1)", "5+1/0*3", "1/0+2/1", "1/0 or 4/2", "4/2/0/2", "1/(1/2)", MIN + "/0", "(((((1/0)))))=0"};
         for (String rule : failing) {
             fails(rule, 0, 0);
         }
@@ -295,6 +295,10 @@ public final class QueryEdgeTest {
             ask(x, 0, 0, "peek(a)");
             due.is("cost by the owner", x.step(x.step(0, 0) == 0 ? 0 : 1, 2), i == 4 ? 5 : costs[i]);
         }
+        PolicyRows eight = due.told("role;row 1 2;" + "permit all any using a<9;".repeat(8));
+        ask(eight, 0, -1, "peek(a)");
+        due.is("cost by eight", eight.step(0, 2), 25);
+        due.is("answer by eight", eight.asked(1), 1);
         PolicyRows off = due.told("role;permit all read using a<9;");
         off.turn(0, false);
         ask(off, 0, -1, "peek(a)");
@@ -349,6 +353,24 @@ public final class QueryEdgeTest {
         planned(x, -1, "peek(a)+1,a<9,peek(b)", "pc1c0c2");
         planned(x, -1, "a<9,peek(b)", "pc1c0");
         planned(x, -1, "peek(a)+1,a+b<9,peek(b)", "pc0c2c1");
+    }
+
+    /** As above, as often as can be: all STEPS turned round, six and thirty times one ahead of another. */
+    private static void allStepsTurnedRound() {
+        PolicyRows x = due.told("role;row 1 2;permit all read using a+a+a+a+a+a<9;view caller where a+a+a+a+a+a;"
+            + "view caller of 0 where not a+a+a+a+a;view caller of 1 where a+a+a+a+a;");
+        planned(x, 2, "not a+a+a+a,a+a+a+a,a+a+a,a+a,a", "c4c3c2c1c0w2w1w0p");
+        due.row("costs", i -> x.step(i, 2), 1, 3, 5, 7, 8, 9, 10, 11, 14);
+        counts(x, 4, 1, 1, 1, 1, 1, 0, 0, 0, 0);
+    }
+
+    /** A QUERY "in place of another one": where a BARRIER stood, none is left. */
+    private static void noBarrierIsLeft() {
+        PolicyRows x = due.told("role;row 1 2;permit all read;" + "view caller barrier where a+b<9;view caller barrier of 0 where a+b<9;view caller barrier of 1 where a+b<9;");
+        planned(x, 2, "peek(a)", "pw0w1w2c0");
+        planned(x, -1, "a+b<9,peek(a)", "pc1c0");
+        planned(x, 2, "peek(a)", "pw0w1w2c0");
+        planned(x, -1, "a+b<9,a+b<9,a+b<9,peek(a)", "pc3c0c1c2");
     }
 
     // ---- how it RUNS
@@ -506,6 +528,8 @@ public final class QueryEdgeTest {
         onlyWhatCostsLessGoesAhead();
         whatIsSilentOrBehindWhatIsSilentGoesAhead();
         theFirstStepFromTheFront();
+        allStepsTurnedRound();
+        noBarrierIsLeft();
         noRowsAndSixteen();
         allFailsThere();
         toldAndDone();

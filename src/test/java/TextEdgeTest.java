@@ -571,6 +571,29 @@ public final class TextEdgeTest {
         due.is("no image", x.restore(), false);
     }
 
+    /** "all anew": a text as full as can be, time and again, with faults between; nothing of another shines through. */
+    private static void allAnewTimeAndAgain() {
+        String full = "columns 1;" + "role;".repeat(6) + "row 1;".repeat(16) + "permit all any using a check a<9;".repeat(8)
+            + "view owner 5 barrier where a<9;view caller of 0 where a=1;view caller of 1 where a/2;";
+        String other = "row -1 -2;restrict all read check b;view caller where b<a;role;role 0;permit 1 any using b<a;";
+        PolicyRows x = new PolicyRows();
+        for (int time = 0; time < 3; time++) {
+            due.is("tell of a full text", Due.tell(x, full), 0);
+            due.row("count", x::count, 6, 1, 16, 8, 3, 96, 255, 0, 0, 0, time, 0, 0);
+            due.row("policy 7", what -> x.policy(7, what), 0, -1, 4, 1, 1, 3, 0);
+            due.row("view 2", what -> x.view(2, what), -1, 0, 1, 3, 1);
+            due.is("acts", x.turn(0, false) && x.grant(0, 5, true) && x.grant(4, 0, true), true);
+            due.is("seen", x.see(0, 0, true), 1);
+            due.is("a full text and more", Due.tell(x, full + "row 2;"), 2);
+            due.is("tell of another", Due.tell(x, other), 0);
+            due.row("count", x::count, 2, 2, 1, 2, 1, 1, 1, 0, 0, 0, time + 1, 0, 0);
+            due.row("role 0", what -> x.role(0, what), 0, 1, 0, 1);
+            due.row("role 1", what -> x.role(1, what), 1, 3, 1, 3);
+            due.row("policy 0", what -> x.policy(0, what), 1, -1, 0, 1, -1, 1, 0);
+            due.row("view 0", what -> x.view(0, what), -1, 0, -1, 3, 1);
+        }
+    }
+
     /** "The place of the latest FAULT of tell(), query(), if the latest of both that threw nothing had one; NONE without." */
     private static void theLatestFault() {
         PolicyRows x = new PolicyRows();
@@ -625,6 +648,7 @@ public final class TextEdgeTest {
         feedGoesToSevenHundred();
         tellTakesTheFirstBytes();
         whatATextTakesAway();
+        allAnewTimeAndAgain();
         theLatestFault();
         due.end("TextEdgeTest");
     }

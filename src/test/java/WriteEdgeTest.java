@@ -211,8 +211,28 @@ public final class WriteEdgeTest {
         due.is("rows", full.count(2) * 100 + full.cell(6, 0) * 10 + full.cell(7, 0), 1512);
         due.is("undo", full.undo(), 0);
         due.is("rows", full.count(2) * 100 + full.cell(7, 0) * 10 + full.cell(8, 0), 1612);
+        for (int row = 0; row < 16; row++) {
+            PolicyRows x = sixteen();
+            due.is("delete", x.delete(0, row), 1);
+            for (int behind = 0; behind < 15; behind++) {
+                due.is("row " + behind + " without " + row, x.cell(behind, 3), behind < row ? behind : behind + 1);
+            }
+            due.is("undo", x.undo(), 0);
+            for (int each = 0; each < 16; each++) {
+                due.is("row " + each + " behind undo of " + row, x.cell(each, 0) * 100 + x.cell(each, 3), 1000 + 101 * each);
+            }
+        }
         PolicyRows check = due.told("columns 1;role;row 1;permit all any check 0;restrict all delete check 0;");
         due.is("by using alone", check.delete(0, 0), 1);
+    }
+
+    /** Sixteen ROWS, each with its number and 10, 20, 30 and nothing more, in four COLUMNS. */
+    private static PolicyRows sixteen() {
+        StringBuilder text = new StringBuilder("columns 4;role;role;permit all any;");
+        for (int row = 0; row < 16; row++) {
+            text.append("row ").append(row + 10).append(' ').append(row + 20).append(' ').append(row + 30).append(' ').append(row).append(';');
+        }
+        return due.told(text.toString());
     }
 
     // ---- grant, turn
@@ -448,6 +468,42 @@ public final class WriteEdgeTest {
         }
     }
 
+    /** As above: each CELL of each ROW, and of what is SEEN who, which ROW and whether. */
+    private static void imagesOfEachCell() {
+        PolicyRows x = sixteen();
+        x.see(1, 15, true);
+        x.see(0, 3, true);
+        x.image();
+        x.forget();
+        x.see(0, 0, false);
+        x.see(1, 1, false);
+        for (int row = 0; row < 16; row++) {
+            due.is("delete", x.delete(0, 0), 1);
+        }
+        for (int row = 0; row < 16; row++) {
+            due.is("insert", x.insert(0, -1, -2, -3, -4), row + 1);
+        }
+        due.is("seen otherwise", x.meant(2), 0);
+        due.is("restore", x.restore(), true);
+        for (int row = 0; row < 16; row++) {
+            int of = row;
+            due.row("cells of row " + row, column -> x.cell(of, column), row + 10, row + 20, row + 30, row);
+        }
+        due.is("seen", x.count(8) * 10 + x.meant(2), 21);
+        due.is("off", x.turn(0, false), true);
+        due.is("seen no more", x.meant(2), 0);
+        PolicyRows who = due.told("columns 1;role;role;row 1;row 2;permit 1 read using a=2;");
+        who.see(1, 1, true);
+        who.see(0, 0, false);
+        who.image();
+        who.forget();
+        who.see(0, 0, true);
+        who.see(1, 1, false);
+        due.is("not so", who.meant(2), 0);
+        due.is("restore", who.restore(), true);
+        due.is("so", who.meant(2), 1);
+    }
+
     /** "in place of another one (not the QUERY)"; STATUS and the tape are none of it. */
     private static void whatAnImageLeavesOut() {
         PolicyRows x = due.told(FREE);
@@ -490,6 +546,7 @@ public final class WriteEdgeTest {
         nothingToUndo();
         noImage();
         imagesOfEmptyAndFull();
+        imagesOfEachCell();
         whatAnImageLeavesOut();
         due.end("WriteEdgeTest");
     }
